@@ -1467,12 +1467,15 @@ public final class RosterLanes {
         int first = 0;
         int last = 0;
         int gain = 0;
+        private final int[] wishGains = new int[MOST_DAYS];
+        private final int[] seamGains = new int[MOST_DAYS + 1];
 
         /** Whether there is a SWAP that GAINS; THE SWAP is held then. */
         boolean find(Plan plan) {
             gain = 0;
             for (int a = 0; a < plan.people; a++) {
                 for (int b = a + 1; b < plan.people; b++) {
+                    weighPair(plan, a, b);
                     for (int i = 0; i < plan.days; i++) {
                         lookFrom(plan, a, b, i);
                     }
@@ -1481,11 +1484,20 @@ public final class RosterLanes {
             return gain > 0;
         }
 
+        /** Each gain is part of many SWAPS of the two, so it is looked up once. */
+        private void weighPair(Plan plan, int a, int b) {
+            for (int day = 0; day < plan.days; day++) {
+                wishGains[day] = wishGain(plan, a, b, day);
+                seamGains[day] = seamGain(plan, a, b, day);
+            }
+            seamGains[plan.days] = 0;
+        }
+
         private void lookFrom(Plan plan, int a, int b, int i) {
-            int inside = seamGain(plan, a, b, i);
+            int inside = seamGains[i];
             for (int j = i; j < plan.days; j++) {
-                inside += wishGain(plan, a, b, j);
-                int all = inside + seamGain(plan, a, b, j + 1);
+                inside += wishGains[j];
+                int all = inside + seamGains[j + 1];
                 if (all > gain && bothAccepted(plan, a, b, i, j)) {
                     one = a;
                     other = b;
