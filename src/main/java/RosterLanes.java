@@ -991,7 +991,7 @@ public final class RosterLanes {
 
         private int readChoice(int depth) {
             int part = readChain(depth);
-            while (part != FAILED && place < MOST_BYTES && signHere() == '|') {
+            while (part != FAILED && place < MOST_BYTES && signHere() == '|' && hasLetterLeft()) {
                 place++;
                 int other = readChain(depth);
                 part = other == FAILED ? FAILED : part | other;
@@ -1041,7 +1041,7 @@ public final class RosterLanes {
             if (sign == '(') {
                 return readBracket(depth);
             }
-            if (!beginsPart(sign) || letters >= MOST_LETTERS) {
+            if (!beginsPart(sign) || !hasLetterLeft()) {
                 return FAILED;
             }
             int bit = 1 << letters;
@@ -1056,7 +1056,7 @@ public final class RosterLanes {
         }
 
         private int readBracket(int depth) {
-            if (depth >= MOST_OPEN) {
+            if (depth >= MOST_OPEN || !hasLetterLeft()) {
                 return FAILED;
             }
             place++;
@@ -1066,6 +1066,11 @@ public final class RosterLanes {
             }
             place++;
             return part;
+        }
+
+        /** Behind a ( or a | a letter has to come: where none is left, these can't stand either. */
+        private boolean hasLetterLeft() {
+            return letters < MOST_LETTERS;
         }
 
         private int signHere() {

@@ -117,37 +117,35 @@ public final class OracleTest {
         }
     }
 
-    /** The place of the fault, read byte by byte with a counter instead of by the grammar; -1: none. */
+    /** The place of the first byte with which no pattern goes on; the length, if it ends too early; -1: none. */
     static int faultOf(String text) {
-        int open = 0;
-        int letters = 0;
-        boolean atomDue = true;
-        boolean signMay = false;
         for (int i = 0; i < text.length(); i++) {
-            char c = text.charAt(i);
-            if ("oden.".indexOf(c) >= 0) {
-                if (++letters > 10) return i;
-                atomDue = false;
-                signMay = true;
-            } else if (c == '(') {
-                if (++open > 5) return i;
-                atomDue = true;
-                signMay = false;
-            } else if (atomDue) {
-                return i;
-            } else if (c == ')') {
-                if (--open < 0) return i;
-                signMay = true;
-            } else if (c == '|') {
-                atomDue = true;
-                signMay = false;
-            } else if ("*+?".indexOf(c) >= 0 && signMay) {
-                signMay = false;
-            } else {
-                return i;
-            }
+            if (!goesOn(text.substring(0, i + 1))) return i;
         }
-        return atomDue || open > 0 ? text.length() : -1;
+        return isPattern(text) ? -1 : text.length();
+    }
+
+    /** Whether something can come behind it that makes it a pattern: nothing longer than this is ever needed. */
+    static boolean goesOn(String text) {
+        for (int closed = 0; closed <= 5; closed++) {
+            String end = ")))))".substring(5 - closed);
+            if (isPattern(text + end) || isPattern(text + "o" + end)) return true;
+        }
+        return false;
+    }
+
+    /** By writing over: what stands in brackets is as one letter, from the innermost brackets on. */
+    static boolean isPattern(String text) {
+        if (text.replaceAll("[^oden.]", "").length() > 10) return false;
+        int open = 0;
+        for (char c : text.toCharArray()) {
+            open += c == '(' ? 1 : c == ')' ? -1 : 0;
+            if (open > 5) return false;
+        }
+        String inside = "[oden.][*+?]?(\\|?[oden.][*+?]?)*";
+        String shorter = text.replaceAll("\\(" + inside + "\\)", "o");
+        for (int i = 0; i < 5; i++) shorter = shorter.replaceAll("\\(" + inside + "\\)", "o");
+        return shorter.matches(inside);
     }
 
     /** A machine with its states as they are met. */

@@ -257,8 +257,13 @@ public final class PromiseTest {
             {")", 0}, {"o)", 1}, {"(o", 2}, {"(o)*", -1}, {"(o)**", 4}, {"o+?", 2}, {"o?*", 2}, {"*", 0}, {"+o", 0},
             {"(*o)", 1}, {"(o|)", 3}, {"o|*", 2}, {"x", 0}, {"oO", 1}, {"o o", 1}, {"o\u0001", 1}, {"o\u007f", 1},
             {"oooooooooo", -1}, {"ooooooooooo", 10}, {"..........", -1}, {"..........d", 10}, {"oooooooooo*", -1},
-            {"(oooooooooo)+", -1}, {"o|o|o|o|o|o|o|o|o|o", -1}, {"o|o|o|o|o|o|o|o|o|o|o", 20},
-            {"o|o|o|o|o|o|o|o|o|o|", 20}, {"oooooooooo(", 11}, {"oooooooooo(o)", 11}, {"oooooooooox", 10},
+            {"(oooooooooo)+", -1}, {"o|o|o|o|o|o|o|o|o|o", -1}, {"o|o|o|o|o|o|o|o|o|o|o", 19},
+            {"oooooooooox", 10},
+            {"o|o|o|o|o|o|o|o|o|o|", 19}, {"oooooooooo(", 10}, {"oooooooooo(o)", 10}, {"oooooooooo|", 10},
+            {"oooooooooo|o", 10}, {"oooooooooo+(", 11}, {"..........?|", 11}, {"(oooooooooo|", 11}, {"(oooooooooo(", 11},
+            {"(oooooooooo)|", 12}, {"(oooooooooo)(", 12}, {"(oooooooooo", 11}, {"oooooooooo)", 10}, {"oooooooooo**", 11},
+            {"ooooooooo|", 10}, {"ooooooooo(", 10}, {"ooooooooo|(", 11}, {"ooooooooo((((((", 14}, {"ooooooooo|(o)", -1},
+            {"ooooooooo|(o|", 12}, {"ooooooooo(((((d)))))*", -1}, {"ooooooooo(((((d(", 15}, {"ooooooooo(((((d|", 15},
             {"(((((o)))))", -1}, {"((((((o))))))", 5}, {"(((((o|(", 7}, {"(((((o)))))((((((", 16},
             {"(((((o)))))(((((d)))))", -1}, {"(((((o))))", 10}, {"o(d(e(n(.(", 10}, {"o(d(e(n(.(o(", 11}, {"(o)(d", 5}};
         for (Object[] t : texts) {
