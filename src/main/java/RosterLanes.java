@@ -1384,10 +1384,10 @@ public final class RosterLanes {
         /** The first SHIFT that costs least behind another; behind none, if that is below 0. */
         private int leastOnward(Plan plan, int from) {
             int least = 0;
-            int leastCost = Integer.MAX_VALUE;
+            int leastCost = 0;
             for (int shift = 0; shift < SHIFTS; shift++) {
                 int here = onward[shift] + (from < 0 ? 0 : plan.changeOf(from, shift));
-                if (here < leastCost) {
+                if (shift == 0 || here < leastCost) {
                     leastCost = here;
                     least = shift;
                 }

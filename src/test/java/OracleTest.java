@@ -24,9 +24,32 @@ public final class OracleTest {
         for (int seed = 1; seed <= 700 && wrong < 20; seed++) {
             new Run(seed).go();
         }
+        for (int seed = 1; seed <= 2500 && wrong < 20; seed++) {
+            tellText(new Random(seed));
+        }
         System.out.println(calls + " calls, " + wrong + " wrong");
         if (wrong != 0) {
             System.exit(1);
+        }
+    }
+
+    /** A text that mostly goes on, till it has ten letters, five open brackets, a fault or sixty bytes. */
+    static void tellText(Random random) {
+        String text = "";
+        String signs = new String[] {"od.(|", "oden.((()|*+?", "ooooo)(|*", "(((o))|+"}[random.nextInt(4)];
+        int most = random.nextInt(61);
+        for (int i = 0; i < 4 * most && text.length() < most; i++) {
+            String longer = text + signs.charAt(random.nextInt(signs.length()));
+            if (goesOn(longer) || random.nextInt(30) == 0) text = longer;
+        }
+        RosterLanes lanes = new RosterLanes();
+        for (char c : text.toCharArray()) lanes.feed(c);
+        int got = lanes.rule(random.nextInt(3));
+        int fault = faultOf(text);
+        calls++;
+        if (fault >= 0 ? got != -100 - fault : got != 0 && got != RosterLanes.FULL) {
+            wrong++;
+            System.out.println("the text " + text + " answered " + got + ", its fault is " + fault);
         }
     }
 
