@@ -86,6 +86,12 @@ public final class CoverEdgeTest extends Edge {
         due("the greatest", x.best(5, -1), 27 * 99);
         same("the only row", best(x, 5), "nnnnnnnnnnnnnn");
         due("no day 14", x.best(5, 14), NONE);
+        x.drop();
+        rule(x, 0, "o?(d|.......)*d");
+        due("by 60 states", x.states(-1), 60);
+        same("the first of all", best(x, 5), "oooooooodddddd");
+        x.drop();
+        rule(x, 0, "n*");
         x.begin(1, 1);
         due("of one day", x.best(0, 0), 3);
         due("no change on one day", x.best(0, -1), 0);
@@ -121,6 +127,13 @@ public final class CoverEdgeTest extends Edge {
         row(y, 0, "nn");
         due("neither less nor more", y.better(0), 0);
         same("the first of the least", roster(y, 0), "ne");
+        RosterLanes z = of(6, 14);
+        rule(z, 0, "n*");
+        for (int one = 5; one >= 0; one--) {
+            due("better(" + one + ") of six", z.better(one), 0);
+            same("its row", roster(z, one), "nnnnnnnnnnnnnn");
+            same("the first row", roster(z, 0), one == 0 ? "nnnnnnnnnnnnnn" : "oooooooooooooo");
+        }
     }
 
     private static void accepted() {
@@ -292,6 +305,27 @@ public final class CoverEdgeTest extends Edge {
         x.wish(1, 0, 1, 0);
         due("a gain of 1", x.swap(0, 1, 0, 0), 1);
         due("no day 1", x.swap(0, 1, 0, 1), NONE);
+        swapAllDays();
+    }
+
+    /** In the largest ROSTER: what stands behind the last DAY is nothing, not the next ROW. */
+    private static void swapAllDays() {
+        RosterLanes x = of(6, 14);
+        for (int one = 0; one < 6; one++) {
+            x.put(one, 0, one % 4);
+            x.put(one, 13, (one + 1) % 4);
+            for (int to = 0; to < 4; to++) {
+                x.change(one % 4, to, 5 * (one % 4) * to);
+            }
+        }
+        for (int a = 0; a < 6; a++) {
+            for (int b = a + 1; b < 6; b++) {
+                for (int i = 0; i < 14; i++) {
+                    boolean alike = (b - a) % 4 == 0;
+                    due("swap(" + a + ", " + b + ", " + i + ", 13)", x.swap(a, b, i, 13), alike ? MAY_NOT : 0);
+                }
+            }
+        }
     }
 
     private static void swaps() {

@@ -388,6 +388,23 @@ public final class TextEdgeTest extends Edge {
         due("undo() of five", x.undo(), 0);
         due("rules", x.sums(2), 0);
         due("there is an image still", x.undo(), 0);
+        undoRules();
+    }
+
+    /** RULES that come behind undo() come to those of THE IMAGE, not to those that were told since. */
+    private static void undoRules() {
+        RosterLanes x = of(1, 2);
+        rule(x, 0, "o.");
+        x.image();
+        x.drop();
+        rule(x, 0, "d.");
+        due("undo()", x.undo(), 1);
+        due("the rule of the image", x.count(0, 0), 4);
+        due("another comes to it", rule(x, 0, ".n"), 1);
+        due("both", x.count(0, 0), 1);
+        same("both", nth(x, 0), "on");
+        due("drop()", x.drop(), 1);
+        same("the rule of the image", nth(x, 3), "on");
     }
 
     private static RosterLanes undone() {
