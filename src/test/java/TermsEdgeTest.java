@@ -10,6 +10,7 @@ public final class TermsEdgeTest extends Edge {
         whole();
         never();
         begins();
+        rules();
         accepted();
         theMachine();
         numbers();
@@ -34,6 +35,7 @@ public final class TermsEdgeTest extends Edge {
         theImage();
         answers();
         asked();
+        manyCalls();
         end(0, 0);
     }
 
@@ -276,6 +278,25 @@ public final class TermsEdgeTest extends Edge {
         allowed(2, "o*d", "d", "od", "ood", "dn", null, "", "o", "oo", "oe");
         allowed(2, "od|o", "o", "od", "oe", null, "", "d");
         allowed(2, "..", "oo", "ooo", null, "", "o");
+    }
+
+    private static void rules() {
+        says(0, "RULES 0 .. 4, as they come, each with a PATTERN and a KIND");
+        RosterLanes x = new RosterLanes();
+        String[] texts = {"o+", "n", "..", "d?.*", "(e)?"};
+        int[] kinds = {2, 1, 0, 2, 2};
+        for (int i = 0; i <= 5; i++) {
+            for (int told = -1; told <= 5; told++) {
+                boolean is = told >= 0 && told < i;
+                due("kind of " + told + " with " + i, told < 0 ? NONE : x.sums(10 + told), is ? kinds[told] : NONE);
+                due("pattern of " + told + " with " + i, x.spell(0, told), is ? texts[told].length() : NONE);
+                same("the paper", is ? paper(x) : "", is ? texts[told] : "");
+                due("states of " + told + " with " + i, x.states(told) > 0 ? 1 : 0, is || told == -1 ? 1 : 0);
+                due("allows(" + told + ") with " + i, feed(x, "on").allows(told), !is ? NONE : told == 1 ? 0 : 1);
+                x.clear();
+            }
+            due("the rule " + i, i < 5 ? rule(x, kinds[i], texts[i]) : rule(x, 0, "o"), i < 5 ? i : FULL);
+        }
     }
 
     private static void accepted() {
@@ -867,5 +888,21 @@ public final class TermsEdgeTest extends Edge {
             asks("sums", x -> x.sums(of));
             asks("paper", x -> x.paper(of));
         }
+    }
+
+    /** 512 calls, of which the last one answers as the first ones did; RULES come and go all the time. */
+    private static void manyCalls() {
+        says(0, "An object is used for at most 512 calls after it has been made");
+        RosterLanes x = new RosterLanes();
+        for (int call = 0; call < 508; call += 4) {
+            due("feed", x.feed(LETTERS.charAt(call / 4 % 4)), 1);
+            due("rule", x.rule(0), 0);
+            due("count", x.count(0, 0), 0);
+            due("drop", x.drop(), 0);
+        }
+        due("the call 509", x.image(), 0);
+        due("the call 510", x.put(1, 6, 3), 0);
+        due("the call 511", x.undo(), 0);
+        due("the call 512", x.at(1, 6), 0);
     }
 }
