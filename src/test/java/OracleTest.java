@@ -17,17 +17,22 @@ import java.util.regex.Pattern;
  */
 public final class OracleTest {
     static final String LETTERS = "oden";
+    static final int MOST_TRIED_DAYS = 6, MOST_TRIED_ROWS = 300;
     static int wrong = 0;
     static int calls = 0;
+    static int longTried = 0;
 
     public static void main(String[] args) {
         for (int seed = 1; seed <= 700 && wrong < 20; seed++) {
             new Run(seed).go();
         }
+        for (int seed = 1; seed <= 200 && wrong < 20; seed++) {
+            new Run(seed).goLong();
+        }
         for (int seed = 1; seed <= 2500 && wrong < 20; seed++) {
             tellText(new Random(seed));
         }
-        System.out.println(calls + " calls, " + wrong + " wrong");
+        System.out.println(calls + " calls, " + longTried + " of them over long rows, " + wrong + " wrong");
         if (wrong != 0) {
             System.exit(1);
         }
@@ -183,6 +188,18 @@ public final class OracleTest {
         int after(int state, String word) {
             for (char c : word.toCharArray()) state = next.get(state)[LETTERS.indexOf(c)];
             return state;
+        }
+
+        /** How many words of so many letters end well behind a word. */
+        long endings(String word, int letters) {
+            long[] behind = new long[size()];
+            for (int i = 0; i < size(); i++) behind[i] = ends.get(i) ? 1 : 0;
+            for (int k = 0; k < letters; k++) {
+                long[] longer = new long[size()];
+                for (int i = 0; i < size(); i++) for (int to : next.get(i)) longer[i] += behind[to];
+                behind = longer;
+            }
+            return behind[after(0, word)];
         }
 
         /** Least, by telling pairs apart until nothing more is told apart. */
@@ -376,17 +393,42 @@ public final class OracleTest {
         /** All accepted rows in order. */
         List<String> all() {
             if (acceptedRows == null) {
-                List<String> words = new ArrayList<>();
-                words.add("");
-                for (int d = 0; d < now.t; d++) {
-                    List<String> longer = new ArrayList<>();
-                    for (String w : words) for (int s = 0; s < 4; s++) longer.add(w + LETTERS.charAt(s));
-                    words = longer;
-                }
                 acceptedRows = new ArrayList<>();
-                for (String w : words) if (isAccepted(w)) acceptedRows.add(w);
+                for (String w : now.t <= MOST_TRIED_DAYS ? allWords() : wordsThatGoOn()) {
+                    if (isAccepted(w)) acceptedRows.add(w);
+                }
             }
             return acceptedRows;
+        }
+
+        private List<String> allWords() {
+            List<String> words = new ArrayList<>();
+            words.add("");
+            for (int d = 0; d < now.t; d++) {
+                List<String> longer = new ArrayList<>();
+                for (String w : words) for (int s = 0; s < 4; s++) longer.add(w + LETTERS.charAt(s));
+                words = longer;
+            }
+            return words;
+        }
+
+        /** Long words can't all be tried: those are left out that the model's own machine can't end well. */
+        private List<String> wordsThatGoOn() {
+            List<String> words = new ArrayList<>();
+            words.add("");
+            for (int d = 0; d < now.t; d++) {
+                List<String> longer = new ArrayList<>();
+                for (String w : words) for (int s = 0; s < 4; s++) {
+                    String word = w + LETTERS.charAt(s);
+                    if (now.machine.endings(word, now.t - d - 1) > 0) longer.add(word);
+                }
+                words = longer;
+            }
+            return words;
+        }
+
+        boolean tooManyToTry() {
+            return now.t > MOST_TRIED_DAYS && now.machine.endings("", now.t) > MOST_TRIED_ROWS;
         }
 
         int penaltyOf(int one, String row) {
@@ -852,13 +894,57 @@ public final class OracleTest {
             }
         }
 
+        /** Rows of seven days and more, with rules by which there are not too many to try, and rows among them. */
+        void goLong() {
+            call("begin", 1 + random.nextInt(6), 7 + random.nextInt(8));
+            for (int i = 0; i < 6 && (model.now.rules.isEmpty() || model.tooManyToTry()); i++) {
+                feed(tightPattern());
+                call("rule", i == 0 || random.nextInt(3) == 0 ? 0 : 1);
+            }
+            if (model.tooManyToTry()) return;
+            tellNumbers();
+            for (int i = 0; i < 60 && !stopped; i++) {
+                int one = random.nextInt(model.now.p);
+                int day = random.nextInt(model.now.t);
+                int n = model.all().size();
+                String row = n == 0 ? word(model.now.t) : model.all().get(random.nextInt(n));
+                switch (random.nextInt(9)) {
+                    case 0:
+                        feed(row);
+                        call("row", one);
+                        break;
+                    case 1: call("put", one, day, random.nextInt(4)); break;
+                    case 2: call("count", one, random.nextInt(model.now.t + 1)); break;
+                    case 3: call("nth", random.nextInt(n + 1), day); break;
+                    case 4: call("ahead", one); break;
+                    case 5: call("may", one, day); break;
+                    case 6: call(random.nextInt(3) == 0 ? "better" : "best", one, day - random.nextInt(2)); break;
+                    case 7:
+                        call("list", 1, 30);
+                        for (int d = 0; d < row.length(); d++) call("set", 1, d + i % 17, LETTERS.indexOf(row.charAt(d)));
+                        call("set", 1, i % 17 + day, random.nextInt(4));
+                        call("judge", 1, i % 17);
+                        break;
+                    default:
+                        call("list", 0, random.nextInt(31));
+                        call("lay", 0, random.nextInt(18) - 1, one);
+                        for (int k = 0; k < 31; k++) call("get", 0, k);
+                        call("mend", i % 4);
+                        call("bestSwap", i % 5);
+                }
+            }
+        }
+
         int days() {
-            return random.nextInt(8) == 0 ? 6 + random.nextInt(9) : 1 + random.nextInt(5);
+            return random.nextInt(5) == 0 ? 6 + random.nextInt(9) : 1 + random.nextInt(5);
         }
 
         void call(String name, long... told) {
             long[] x = Arrays.copyOf(told, 4);
-            if (TRIES_ALL.contains(name) && model.now.t > 6) return;
+            if (TRIES_ALL.contains(name)) {
+                if (model.tooManyToTry()) return;
+                if (model.now.t > MOST_TRIED_DAYS) longTried++;
+            }
             long due = model.call(name, x);
             long got = ask(lanes, name, x);
             calls++;
@@ -876,14 +962,16 @@ public final class OracleTest {
 
         void tellRule() {
             if (random.nextInt(4) > 0) call("clear");
-            String text = random.nextInt(4) == 0 ? largePattern()
+            String text = model.tooManyToTry() && random.nextInt(3) > 0 ? tightPattern()
+                : random.nextInt(4) == 0 ? largePattern()
                 : pattern(random.nextInt(4), new int[] {1 + random.nextInt(random.nextInt(3) == 0 ? 11 : 5)});
             if (random.nextInt(5) == 0) {
                 int at = random.nextInt(text.length() + 1);
                 text = text.substring(0, at) + "od.()|*+?xe".charAt(random.nextInt(11)) + text.substring(at);
             }
             feed(text);
-            call("rule", random.nextInt(12) == 0 ? random.nextInt(6) - 2 : random.nextInt(3));
+            boolean oftenWhole = model.tooManyToTry() && random.nextBoolean();
+            call("rule", oftenWhole ? 0 : random.nextInt(12) == 0 ? random.nextInt(6) - 2 : random.nextInt(3));
             if (random.nextInt(3) == 0) machine();
             if (model.now.rules.size() > 2 && random.nextInt(3) == 0) call("drop");
         }
@@ -914,6 +1002,19 @@ public final class OracleTest {
                 case 1: return "(" + letter + dots + ")*";
                 case 2: return ".*(" + letter + dots + "|" + LETTERS.charAt(random.nextInt(4)) + ")";
                 default: return "(" + letter + "|" + dots + ".)*" + letter;
+            }
+        }
+
+        /** One that few long rows are made of, if its kind is 0. */
+        String tightPattern() {
+            String one = "" + LETTERS.charAt(random.nextInt(4));
+            String other = "" + LETTERS.charAt(random.nextInt(4));
+            String two = "oden.".charAt(random.nextInt(5)) + one;
+            switch (random.nextInt(4)) {
+                case 0: return "(" + one + two + "|" + other + two + one + ")*" + (random.nextBoolean() ? ".?" : "o?d?");
+                case 1: return one + "*" + other + "+(" + two + ")?" + one + "*";
+                case 2: return "(" + two + other + "+)+" + one + "?";
+                default: return one + "?(" + two + other + "+" + one + "?" + other + "?)*";
             }
         }
 
@@ -968,7 +1069,7 @@ public final class OracleTest {
             if (name.equals("begin") && random.nextInt(4) > 0) return;
             long[] x = new long[4];
             for (int i = 0; i < 4; i++) x[i] = number(name);
-            if (name.equals("nth") && random.nextInt(4) > 0 && model.now.t <= 6) {
+            if (name.equals("nth") && random.nextInt(4) > 0 && !model.tooManyToTry()) {
                 x[0] = random.nextInt(model.all().size() + 2) - 1;
             }
             call(name, x);
