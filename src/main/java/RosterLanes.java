@@ -1084,8 +1084,8 @@ public final class RosterLanes {
 
     /** Makes least machines. Its rows are large, so they are made once and used for each machine. */
     private static final class Maker {
-        /** All sets of ten letters, the start, and MATCHED. */
-        private static final int MOST_SETS = 1026;
+        /** All sets of ten letters, and the start; where MATCHED is one, it stands for half of them and more. */
+        private static final int MOST_SETS = 1025;
         private static final int SLOTS = 2048, SIGN_SLOTS = 128;
         /** A class of places takes as many bits: five of them fit in one number. */
         private static final int CLASS_BITS = 6, CLASS_MASK = 63;

@@ -117,7 +117,23 @@ public final class FaceTest {
         while (imports.find()) {
             must(imports.group(1).equals("java.util.Arrays"), "an import: " + imports.group(1));
         }
+        library(code);
         methodLengths(text.split("\n"));
+    }
+
+    /** What is named by its class is listed in the language, or one of the classes inside. */
+    private static void library(String code) {
+        Set<String> own = new TreeSet<>();
+        for (Class<?> c : RosterLanes.class.getDeclaredClasses()) {
+            own.add(c.getSimpleName());
+        }
+        String listed = "Arrays\\.(copyOf|copyOfRange|fill)|System\\.arraycopy|Math\\.(abs|max|min|floorDiv|floorMod)"
+                + "|(Integer|Long)\\.(compare|bitCount|MIN_VALUE)";
+        Matcher named = Pattern.compile("\\b([A-Z]\\w*)\\.\\w+").matcher(code);
+        while (named.find()) {
+            must(own.contains(named.group(1)) || named.group().matches(listed), "not listed: " + named.group());
+        }
+        must(!Pattern.compile("(for \\(;|; ;|;;|while \\(true)").matcher(code).find(), "a loop without an end");
     }
 
     /** A method begins and ends at the same indent; none is longer than sixty lines. */

@@ -5,7 +5,6 @@ import java.util.Set;
 import java.util.TreeSet;
 import java.util.regex.Matcher;
 import java.util.regex.Pattern;
-import javax.tools.ToolProvider;
 
 /** README.md: its program prints what it says, each public call is named there, and each test. */
 public final class ReadmeTest {
@@ -32,30 +31,26 @@ public final class ReadmeTest {
         Matcher blocks = Pattern.compile("(?s)```java\n(.*?)```\n\nprints\n\n```text\n(.*?)```").matcher(page);
         must(blocks.find(), "a program and what it prints");
         if (wrong == 0) {
-            String printed = printedBy(blocks.group(1));
+            String printed = printedByProgram(blocks.group(1));
             must(printed.equals(blocks.group(2)), "the program prints\n" + printed);
         }
     }
 
-    private static String printedBy(String program) throws Exception {
+    private static String printedByProgram(String program) throws Exception {
         Path folder = Files.createTempDirectory("readme");
         Path source = folder.resolve("Shown.java");
         Files.writeString(source, "public class Shown { public static void main(String[] args) {\n" + program + "}}\n");
         String path = System.getProperty("java.class.path");
-        int compiled = ToolProvider.getSystemJavaCompiler().run(null, null, null, "-cp", path, "-d", folder.toString(),
-                source.toString());
-        must(compiled == 0, "the program does not compile");
-        String printed = compiled == 0 ? run(folder, path) : "";
+        printedBy("javac", "-cp", path, "-d", folder.toString(), source.toString());
+        String printed = printedBy("java", "-cp", folder + System.getProperty("path.separator") + path, "Shown");
         remove(folder);
         return printed;
     }
 
-    private static String run(Path folder, String path) throws Exception {
-        ProcessBuilder java = new ProcessBuilder(Path.of(System.getProperty("java.home"), "bin", "java").toString(),
-                "-cp", folder + System.getProperty("path.separator") + path, "Shown");
-        Process process = java.redirectErrorStream(true).start();
+    private static String printedBy(String... command) throws Exception {
+        Process process = new ProcessBuilder(command).redirectError(ProcessBuilder.Redirect.INHERIT).start();
         String printed = new String(process.getInputStream().readAllBytes());
-        must(process.waitFor() == 0, "the program does not end well");
+        must(process.waitFor() == 0, command[0] + " does not end well");
         return printed.replace("\r\n", "\n");
     }
 
