@@ -42,14 +42,19 @@ public final class FaceTest {
         }
     }
 
-    private static void face() {
-        must(Modifier.isFinal(RosterLanes.class.getModifiers()), "the class isn't final");
-        must(Modifier.isPublic(RosterLanes.class.getModifiers()), "the class isn't public");
-        Set<String> due = new TreeSet<>(Arrays.asList(FACE));
+    private static Set<String> publicNames() {
         Set<String> names = new HashSet<>();
         for (String f : FACE) {
             names.add(f.substring(f.indexOf(' ') + 1, f.indexOf('(')));
         }
+        return names;
+    }
+
+    private static void face() {
+        must(Modifier.isFinal(RosterLanes.class.getModifiers()), "the class isn't final");
+        must(Modifier.isPublic(RosterLanes.class.getModifiers()), "the class isn't public");
+        Set<String> due = new TreeSet<>(Arrays.asList(FACE));
+        Set<String> names = publicNames();
         Set<String> got = new TreeSet<>();
         for (Method m : RosterLanes.class.getDeclaredMethods()) {
             if (Modifier.isPrivate(m.getModifiers())) {
@@ -80,12 +85,15 @@ public final class FaceTest {
     private static void inside() {
         Class<?>[] classes = RosterLanes.class.getDeclaredClasses();
         must(classes.length <= 12, "too many classes");
+        Set<String> names = publicNames();
         for (Class<?> c : classes) {
             must(Modifier.isStatic(c.getModifiers()) && !Modifier.isPublic(c.getModifiers())
                     && !Modifier.isProtected(c.getModifiers()), "a class inside: " + c);
             fields(c);
             for (Method m : c.getDeclaredMethods()) {
                 must(m.getParameterCount() <= 7, "too many parameters: " + m);
+                must(!Modifier.isPrivate(m.getModifiers()) || !names.contains(m.getName()),
+                        "a private method bears a public name: " + m);
             }
         }
         fields(RosterLanes.class);
